@@ -72,18 +72,18 @@ public final class PatienceTable {
             throw new IllegalArgumentException("no such deal");
         }
         clear();
-        int left = game.cardCount();
-        for (int card = 0; card < left; card++) {
+        int cardCount = game.cardCount();
+        for (int card = 0; card < cardCount; card++) {
             rest[card] = card;
         }
         int x = number;
-        for (int column = 0; left > 0; left--) {
+        for (int i = 0; i < cardCount; i++) {
+            int left = cardCount - i;
             // The sum may wrap: its lowest 31 bits, all that is kept, stay right.
             x = (214013 * x + 2531011) & Integer.MAX_VALUE;
             int drawn = x / 65536 % left;
-            table.layOn(column, rest[drawn]);
+            table.layOn(i % game.columns, rest[drawn]);
             rest[drawn] = rest[left - 1];
-            column = column + 1 < game.columns ? column + 1 : 0;
         }
     }
 
@@ -452,7 +452,7 @@ public final class PatienceTable {
             }
             boolean red = game.isRed(game.suitOf(card));
             for (int suit = 0; suit < game.suits; suit++) {
-                // A card that could still be wanted here as a bearer keeps this one from being safe.
+                // This card may be wanted as long as one that could lie on it is not at home.
                 boolean mayLieOnIt = game.build != BUILD_BY_COLOUR || game.isRed(suit) != red;
                 if (mayLieOnIt && homeRanks[suit] < rank - 1) {
                     return false;
@@ -558,11 +558,11 @@ public final class PatienceTable {
                 if (firstStep != NONE) {
                     return level;
                 }
-                if (count == passed && !hasTooMany) {
-                    return LOST;
-                }
                 if (hasTooMany) {
                     return UNKNOWN;
+                }
+                if (count == passed) {
+                    return LOST;
                 }
                 first = passed;
             }
