@@ -14,6 +14,7 @@ public final class PatienceTable {
     private static final int MOST_RANKS = 13;
     private static final int MOST_CARDS = 52;
     private static final int LAST_DEAL = 32000;
+    private static final int LOWEST_31_BITS = 0x7FFFFFFF;
     private static final int MOST_FUEL = 200;
     private static final int MOST_LOGGED = 60;
 
@@ -79,8 +80,8 @@ public final class PatienceTable {
         int x = number;
         for (int i = 0; i < cardCount; i++) {
             int left = cardCount - i;
-            // The sum may wrap: its lowest 31 bits, all that is kept, stay right.
-            x = (214013 * x + 2531011) & Integer.MAX_VALUE;
+            // The product may wrap: the bits that are kept stay right.
+            x = (214013 * x + 2531011) & LOWEST_31_BITS;
             int drawn = x / 65536 % left;
             table.layOn(i % game.columns, rest[drawn]);
             rest[drawn] = rest[left - 1];

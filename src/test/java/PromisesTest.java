@@ -539,6 +539,10 @@ public final class PromisesTest {
         check.equal("home, no suit at all", table.card(HOME, 4), NONE);
         check.equal("home, k = -1", table.card(HOME, -1), NONE);
         check.equal("home, greatest k", table.card(HOME, Integer.MAX_VALUE), NONE);
+        PatienceTable allSuits = Tables.laid(Tables.of(2, 0, 0, 0, 4, 1), column(0, 1, 2, 3));
+        allSuits.sendHome();
+        check.equal("home, the last of four suits", allSuits.card(HOME, 3), 3);
+        check.equal("home, a fifth suit", allSuits.card(HOME, 4), NONE);
         for (int place : new int[] {-1, 2, 7, 10, 11, 13, Integer.MIN_VALUE, Integer.MAX_VALUE}) {
             check.equal("card(" + place + ", 0)", table.card(place, 0), NONE);
         }
