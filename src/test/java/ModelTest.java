@@ -18,10 +18,6 @@ public final class ModelTest {
     private final boolean isLively;
     private int calls = 0;
 
-    private interface Call {
-        int answer();
-    }
-
     private ModelTest(Check check, int run, int[] kinds) {
         this.check = check;
         this.run = run;
@@ -52,24 +48,10 @@ public final class ModelTest {
         check.that("run " + run + " made " + calls + " calls", calls <= 512);
     }
 
-    private static int answerOf(Call call) {
-        try {
-            return call.answer();
-        } catch (IllegalArgumentException e) {
-            return -101;
-        } catch (IllegalStateException e) {
-            return -102;
-        } catch (java.util.NoSuchElementException e) {
-            return -103;
-        } catch (RuntimeException e) {
-            return -104;
-        }
-    }
-
-    private int compare(String what, Call ofTable, Call ofModel) {
+    private int compare(String what, Answer.Call ofTable, Answer.Call ofModel) {
         calls++;
-        int due = answerOf(ofModel);
-        check.equal("run " + run + ": " + what, answerOf(ofTable), due);
+        int due = Answer.of(ofModel);
+        check.equal("run " + run + ": " + what, Answer.of(ofTable), due);
         return due;
     }
 

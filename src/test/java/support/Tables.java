@@ -24,6 +24,30 @@ final class Tables {
         return table;
     }
 
+    /** Lays columns told as a text, each from its lowest card up: "2 0 / 3 1" are two columns of two cards. */
+    static PatienceTable told(PatienceTable table, String columns) {
+        int column = 0;
+        for (String cards : columns.split("/", -1)) {
+            for (String card : cards.trim().split(" +")) {
+                if (!card.isEmpty()) {
+                    table.lay(column, Integer.parseInt(card));
+                }
+            }
+            column++;
+        }
+        return table;
+    }
+
+    /** The cards of one suit from one rank to another, rising or falling, as a text for told. */
+    static String suit(int suits, int suit, int fromRank, int toRank) {
+        StringBuilder told = new StringBuilder();
+        int step = fromRank <= toRank ? 1 : -1;
+        for (int rank = fromRank; rank != toRank + step; rank += step) {
+            told.append(suits * (rank - 1) + suit).append(' ');
+        }
+        return told.toString();
+    }
+
     /** All that can be seen without changing anything, in few enough calls to be asked twice of one object. */
     static List<Integer> seen(PatienceTable table) {
         List<Integer> all = new ArrayList<>();
