@@ -366,6 +366,10 @@ public final class BoundsOfMovesTest {
                         Tables.suit(1, 0, game[0], 1));
                 allowed(check, what + ", all", greatest, new int[] {0, 7, ranks}, ranks <= cells + 1);
                 allowed(check, what + ", one less", greatest, new int[] {0, 7, ranks - 1}, false);
+                int due = ranks <= cells + 1 ? ranks : 0;
+                check.equal(what + ", most", greatest.get().most(0, 7), due);
+                check.equal(what + ", play", Answer.of(() -> greatest.get().play('1', '8')),
+                        due > 0 ? due : Answer.STATE);
                 Supplier<PatienceTable> never = () -> Tables.told(Tables.of(8, game[1], 1, 2, 1, game[0]),
                         Tables.suit(1, 0, game[0], 1));
                 allowed(check, what + ", FILL 2, all", never, new int[] {0, 7, ranks}, false);
