@@ -10,6 +10,7 @@ import java.util.ArrayList;
 import java.util.List;
 import java.util.Set;
 import java.util.TreeSet;
+import java.util.regex.MatchResult;
 import java.util.regex.Matcher;
 import java.util.regex.Pattern;
 import java.util.stream.Collectors;
@@ -67,7 +68,7 @@ public final class ReadmeTest {
 
     private static void compareExceptions(Check check, Method method, String part) {
         List<String> due = Stream.of(method.getExceptionTypes()).map(Class::getSimpleName).toList();
-        List<String> told = Pattern.compile("\\w+Exception").matcher(part).results().map(found -> found.group()).toList();
+        List<String> told = Pattern.compile("\\w+Exception").matcher(part).results().map(MatchResult::group).toList();
         check.that(method.getName() + " is told to throw " + told + ", due is " + due, told.equals(due));
     }
 
