@@ -19,8 +19,8 @@ public final class WholeGamesTest {
             + "4h 4h 4h 4h 4h");
     private static final Played GREATEST_INTO_EMPTY = new Played(11, new int[] {8, 4, 2, 1},
             "6h 21 2a 2b 2c 2d 35 36 23 21 45 42 a2 622 62 72 62 522 6h 4a c6 4c 45 85 8h 1h 3h 8h 8h 8h 1h b8 7b 7h "
-            + "4h 3h 3h 5h 5h bh 2h 38 57 5h 56 52 5h 5h 1h 1h 2h 2h 2h 2h 7h 7h 2h 1b 12 1h 2h 12 1h 3h 3h 4h ch 6h 2h "
-            + "2h bh dh 6h 6h 7h 2h 2h 2h 7h 8h 8h 8h ah");
+            + "4h 3h 3h 5h 5h bh 2h 38 57 5h 56 52 5h 5h 1h 1h 2h 2h 2h 2h 7h 7h 2h 1b 12 1h 2h 12 1h 3h 3h 4h ch 6h "
+            + "2h 2h bh dh 6h 6h 7h 2h 2h 2h 7h 8h 8h 8h ah");
     private static final Played NONE_INTO_EMPTY = new Played(20, new int[] {8, 4, 2, 2},
             "2h 8h 8h 2a 2b 2c 2d 24 32 3h 1h 32 3h 3h 6h 61 6h a1 3a 61 6h 4h 36 45 4h 4h dh 1h 4d 81 81 8h 58 51 a4 "
             + "5a 5h 5h 75 78 7h 6h 86 8h ah 682 7a 7h 2h 5h 5h 8h ch a5 452 4h 4h 152 173 2h 2h 1a b7 872 1b 1c 75 7h "
